@@ -13,6 +13,7 @@ public final class ColourForests {
     private static final int MOST_LIMIT = 14;
     private static final int MOST_WEIGHT = 9999;
     private static final int FIRST_LIMIT = 1;
+    private static final int BOTH_KINDS = 2;
 
     /** A row of small numbers packed into one int, so that a walk can keep many rows and make none. */
     private static final int CELL_BITS = 4;
@@ -95,13 +96,17 @@ public final class ColourForests {
     }
 
     public int free(int kind, int set) {
-        boolean both = kind == 2;
-        Kind judge = judgeOf(kind);
-        if (!both && judge == null || !graph.hasSet(set)) {
+        if (!graph.hasSet(set)) {
             return NONE;
         }
-        boolean answer = judge == null ? isCommon(set) : judge.allows(set);
-        return answer ? 1 : 0;
+        if (kind == BOTH_KINDS) {
+            return told(isCommon(set));
+        }
+        Kind judge = judgeOf(kind);
+        if (judge == null) {
+            return NONE;
+        }
+        return told(judge.allows(set));
     }
 
     public int circuit(int kind, int set, int edge) {
@@ -167,7 +172,11 @@ public final class ColourForests {
         survey.refresh();
         boolean right = dearestAreSuch() && gainsNeverRise()
             && isWitness(leastWitness()) && isWitness(greatestWitness());
-        return right ? 1 : 0;
+        return told(right);
+    }
+
+    private static int told(boolean answer) {
+        return answer ? 1 : 0;
     }
 
     private static boolean within(int n, int low, int high) {
@@ -470,9 +479,10 @@ public final class ColourForests {
         private static final int OVERFULL = -1;
         /** The place in the walk's rows of the set without edges, above the place of every edge. */
         private static final int START = MOST_EDGES;
+        private static final int NO_CHANGES_SEEN = -1;
 
         private final Graph graph;
-        private int changesSeen = NONE;
+        private int changesSeen = NO_CHANGES_SEEN;
         int widestForests;
         int commonSets;
         int most;

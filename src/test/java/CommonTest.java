@@ -16,6 +16,7 @@ public final class CommonTest {
         promise15WitnessOfPaths();
         promise15WitnessRefuses();
         promise16Check();
+        promise16CheckOfGains();
         DUE.end();
     }
 
@@ -218,6 +219,21 @@ public final class CommonTest {
         for (int n = 0; n < 14; n++) {
             x.edge(n % 8, n * 3 % 8, n % 6, n * n % 11 - 5);
             DUE.answer("check() after edge " + n, x.check(), 1);
+        }
+    }
+
+    /** Gains may stay the same or fall, above nothing and below it. */
+    private static void promise16CheckOfGains() {
+        int[][] rows = {{5, 5, 5}, {0, 0, 0}, {-5, -5, -5}, {-1, -2, -3}, {9999, 0, -9999}, {-3, -2, -1}};
+        for (int[] row : rows) {
+            ColourForests x = new ColourForests();
+            x.make(4, 3);
+            for (int n = 0; n < 3; n++) {
+                x.edge(n, n + 1, n, row[n]);
+            }
+            DUE.answer("most()", x.most(), 3);
+            DUE.answer("weight(3)", x.weight(3), row[0] + row[1] + row[2]);
+            DUE.answer("check()", x.check(), 1);
         }
     }
 }
