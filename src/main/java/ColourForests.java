@@ -158,6 +158,7 @@ public final class ColourForests {
     }
 
     public int witness(int way) {
+        survey.refresh();
         switch (way) {
             case 0:
                 return leastWitness();
@@ -237,28 +238,17 @@ public final class ColourForests {
      * inside edge all of its circuit is. The least set closed under both rules is the answer.
      */
     private int leastSplit(Kind inner, Kind outer) {
-        survey.refresh();
         int largest = survey.dearestSets[survey.most];
         int inside = 0;
-        for (int round = 0; round <= graph.edges; round++) {
-            int forced = graph.allEdges() & ~outer.closureOf(largest & ~inside);
-            int added = forced & ~inside;
-            if (added == 0) {
+        for (int round = 0; round < graph.edges; round++) {
+            int forced = graph.allEdges() & ~outer.closureOf(largest & ~inside) & ~inside;
+            int next = Integer.lowestOneBit(forced);
+            if (next == 0) {
                 break;
             }
-            inside |= added | circuitsOf(inner, largest, added);
+            inside |= next | inner.circuitWithin(largest | next);
         }
         return inside;
-    }
-
-    private int circuitsOf(Kind inner, int largest, int added) {
-        int circuits = 0;
-        for (int edge = 0; edge < graph.edges; edge++) {
-            if (hasBit(added, edge)) {
-                circuits |= inner.circuitWithin(largest | 1 << edge);
-            }
-        }
-        return circuits;
     }
 
     private boolean dearestAreSuch() {
@@ -407,15 +397,16 @@ public final class ColourForests {
             return rankOf(set) == Integer.bitCount(set);
         }
 
-        /** The circuit in a set that has at most one; 0 when it has none. */
+        /**
+         * The edges whose loss leaves the rank as it is: in a set with just one circuit they are that
+         * circuit, in a free set there are none.
+         */
         int circuitWithin(int set) {
-            if (allows(set)) {
-                return 0;
-            }
+            int rank = rankOf(set);
             int circuit = 0;
             for (int edge = 0; edge < graph.edges; edge++) {
                 int bit = 1 << edge;
-                if ((set & bit) != 0 && allows(set & ~bit)) {
+                if ((set & bit) != 0 && rankOf(set & ~bit) == rank) {
                     circuit |= bit;
                 }
             }
