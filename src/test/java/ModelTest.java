@@ -13,6 +13,8 @@ public final class ModelTest {
 
     private final int edgesWanted;
     private final int weightSpan;
+    /** One call of so many is a change. */
+    private final int changeEvery;
     private final ColourForests program = new ColourForests();
     private final Model model = new Model();
     private String call;
@@ -20,6 +22,7 @@ public final class ModelTest {
     private ModelTest(int object) {
         edgesWanted = object % 8 == 0 ? 14 : below(SMALL_GRAPH + 1);
         weightSpan = object % 3 == 0 ? 9999 : 1 + below(4);
+        changeEvery = object % 4 == 1 ? 2 : 40;
     }
 
     public static void main(String[] args) {
@@ -31,7 +34,7 @@ public final class ModelTest {
 
     private void run() {
         for (int calls = build(); calls < CALLS; calls++) {
-            if (below(40) == 0) {
+            if (below(changeEvery) == 0) {
                 change();
             } else {
                 ask(6 + below(11));
@@ -60,11 +63,11 @@ public final class ModelTest {
         if (what == 0) {
             same(2, below(10), below(8), 0, 0);
         } else if (what < 4) {
-            same(3, near(model.count(0)), near(model.count(0)), near(model.count(1)), anyWeight());
+            same(3, near(model.count(0)), near(model.count(0)), near(model.count(1)), anyOrWrongWeight());
         } else if (what < 8) {
             same(4, near(model.count(1)), below(18) - 1, 0, 0);
         } else {
-            same(5, near(model.count(2)), below(20) == 0 ? 10000 : anyWeight(), 0, 0);
+            same(5, near(model.count(2)), anyOrWrongWeight(), 0, 0);
         }
     }
 
@@ -178,6 +181,10 @@ public final class ModelTest {
 
     private int anyWeight() {
         return below(2 * weightSpan + 1) - weightSpan;
+    }
+
+    private int anyOrWrongWeight() {
+        return below(10) == 0 ? 20000 * below(2) - 10000 : anyWeight();
     }
 
     /** Mostly a set of edges that there are, thin and thick ones; now and then one with what is no edge. */

@@ -1,3 +1,5 @@
+import java.util.List;
+
 /** Compares answers with those that are due, and ends the test with exit code 1 if one was wrong. */
 final class Due {
     interface Call {
@@ -18,19 +20,27 @@ final class Due {
     }
 
     void answer(String call, long got, long want) {
-        asked++;
-        if (got != want) {
-            wrong++;
-            System.out.println(test + ": " + call + " answered " + got + ", due is " + want);
-        }
+        judge(call + " answered ", String.valueOf(got), String.valueOf(want));
+    }
+
+    void holds(String what, boolean holds) {
+        judge(what + " is ", String.valueOf(holds), "true");
     }
 
     void thrown(String call, String want, Call body) {
+        judge(call + " threw ", thrownBy(body), want);
+    }
+
+    /** Rows of answers, as Answers tells them. */
+    void same(String what, List<Long> got, List<Long> want) {
+        judge(what + " answers ", got.toString(), want.toString());
+    }
+
+    private void judge(String what, String got, String want) {
         asked++;
-        String got = thrownBy(body);
         if (!got.equals(want)) {
             wrong++;
-            System.out.println(test + ": " + call + " threw " + got + ", due is " + want);
+            System.out.println(test + ": " + what + got + ", due is " + want);
         }
     }
 
