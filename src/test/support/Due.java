@@ -23,6 +23,10 @@ final class Due {
         judge(call + " answered ", String.valueOf(got), String.valueOf(want));
     }
 
+    void told(String call, String got, String want) {
+        judge(call + " told ", got, want);
+    }
+
     void holds(String what, boolean holds) {
         judge(what + " is ", String.valueOf(holds), "true");
     }
